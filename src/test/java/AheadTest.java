@@ -132,6 +132,15 @@ public final class AheadTest {
         c.refused(none, "no secrets", none.firstHeard(), 8);
         MarginPlan never = Check.with("cell a; secret s letters 3;");
         c.refused(never, "never", never.firstHeard(), 8);
+        StringBuilder text = new StringBuilder("cell a pricks 1;");
+        for (char name = 'b'; name < 'i'; name++) {
+            text.append("cell ").append(name).append(" pricks 0;");
+        }
+        // Five pages are too small by one: 95 pricks in vain, the last of 115 in turn 913, h reads in 920.
+        String pages = "page p room 19; page q room 19; page r room 19; page t room 19; page u room 19; page v room 60;";
+        MarginPlan far = Check.with(text + "secret s letters 20;" + pages + "knows a s;");
+        c.fine(far, "far ahead", far.heard(0), 920);
+        c.fine(far, "far ahead", far.firstHeard(), 0);
     }
 
     private static void bestOrder() {

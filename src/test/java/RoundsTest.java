@@ -183,6 +183,8 @@ public final class RoundsTest {
         c.fine(x, "steps", x.live(0), 7);
         c.fine(x, "missed", x.lived(0), 6);
         c.fine(x, "moved", x.orderAt(0), 1);
+        c.fine(x, "once more", x.live(0), 7);
+        c.fine(x, "missed anew", x.lived(0), 6);
     }
 
     private static void turnsMissed() {
@@ -297,6 +299,9 @@ public final class RoundsTest {
         c.fine(x, "missed: nothing there, shut", x.lived(0), 2);
         c.fine(x, "nothing there", x.many(5), 0);
         c.fine(x, "made", x.lived(2), 8);
+        Check.rounds(x, "warder;");
+        c.fine(x, "once more", x.live(77), 1);
+        c.fine(x, "rubbed anew", x.lived(3), 0);
         x = Check.with(BOOK);
         x.watch(0, 0);
         Check.rounds(x, "turn 1; loop 99; warder; end;");
@@ -356,6 +361,7 @@ public final class RoundsTest {
         c.refused(x, "the last above", x.mean(0, 9981, 20), 5);
         c.refused(x, "far above", x.mean(0, 9999, Integer.MAX_VALUE), 5);
         c.fraction(x, "a", x.mean(0, 9980, 20), 2, 1);
+        c.fraction(x, "the last seed", x.mean(0, 9999, 1), 2, 1);
         int sum = 0;
         for (int seed = 30; seed < 50; seed++) {
             int s = (seed * 2969 + 10651) % 65536;

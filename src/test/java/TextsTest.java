@@ -62,6 +62,12 @@ public final class TextsTest {
         c.fine(x, "in order", x.many(3), 2);
         c.fine(x, "first", x.orderAt(0), 1);
         c.fine(x, "second", x.orderAt(1), 0);
+        c.fine(x, "eight of all kinds", Check.book(x, "cell a blind rubs; cell b blind; secret s letters 5; knows b s; page p room 3;"), 2);
+        c.fine(x, "nothing of it is left", Check.book(x, "cell c; cell d rubs; secret u letters 3; page v room 2;"), 2);
+        c.fine(x, "not blind", x.cell(0, 1) + x.cell(1, 1), 0);
+        c.fine(x, "only the second rubs", x.cell(0, 2) * 10 + x.cell(1, 2), 1);
+        c.fine(x, "nobody knows", x.knowers(0), 0);
+        c.fine(x, "two in order", x.many(3), 2);
         c.fine(x, "without an order all", Check.book(x, "cell c; cell b; cell a;"), 3);
         c.fine(x, "in order", x.many(3), 3);
         c.fine(x, "by numbers", x.orderAt(2), 2);
@@ -88,6 +94,14 @@ public final class TextsTest {
         c.refused(x, "rounds(21)", x.rounds(21), 5);
         c.due("fault(0) stays", x.fault(0), 0);
         c.fine(x, "the tape stays with 5", x.book(15), 2);
+        Check.feed(x, "cell ab pricks 123;");
+        c.refused(x, "cut in a word", x.book(6), 10);
+        c.due("fault(0)", x.fault(0), 2);
+        c.due("fault(1)", x.fault(1), 6);
+        Check.feed(x, "cell ab pricks 20000;");
+        c.refused(x, "cut in a number", x.book(17), 10);
+        c.due("fault(0)", x.fault(0), 2);
+        c.due("fault(1)", x.fault(1), 17);
         Check.feed(x, Check.times("stop;\n    ", 40));
         c.refused(x, "rounds(301)", x.rounds(301), 5);
         c.fine(x, "rounds(300)", x.rounds(300), 30);
