@@ -1597,7 +1597,9 @@ public final class MarginPlan {
         /** RUB: how many PRICKS went. */
         int erasePage(int page) {
             int gone = used[page];
-            Arrays.fill(dots, page * MOST_SECRETS, (page + 1) * MOST_SECRETS, 0);
+            for (int secret = 0; secret < MOST_SECRETS; secret++) {
+                dots[page * MOST_SECRETS + secret] = 0;
+            }
             used[page] = 0;
             stands[page] = 0;
             return gone;
