@@ -1,6 +1,7 @@
 /** What all tests use: answers that are due, and texts for the tape. */
 final class Check {
     private final String test;
+    private String sentence = "";
     private int wrong = 0;
     private int asked = 0;
 
@@ -8,11 +9,26 @@ final class Check {
         this.test = test;
     }
 
+    /** What comes next tests this sentence of this part of the document ("Terms 1", "Promise 5"). */
+    void says(String part, String words) {
+        sentence = "";
+        due(part + " says <" + words + ">", Doc.says(part, words), true);
+        sentence = part + " <" + words + ">: ";
+    }
+
     void due(String call, long got, long want) {
         asked++;
         if (got != want) {
             wrong++;
-            System.out.println(test + ": " + call + " answered " + got + ", due is " + want);
+            System.out.println(test + ": " + sentence + call + " answered " + got + ", due is " + want);
+        }
+    }
+
+    void due(String call, String got, String want) {
+        asked++;
+        if (!got.equals(want)) {
+            wrong++;
+            System.out.println(test + ": " + sentence + call + " answered\n  " + got + ", due is\n  " + want);
         }
     }
 
@@ -47,6 +63,16 @@ final class Check {
         fine(x, call, got);
         due(call + ", top", x.top(), top);
         due(call + ", bottom", x.bottom(), bottom);
+    }
+
+    /** A call that tells this FRACTION, which here may still have a common divisor. */
+    void reduced(MarginPlan x, String call, boolean got, long top, long bottom) {
+        long by = divisor(bottom, top);
+        fraction(x, call, got, top / by, bottom / by);
+    }
+
+    private static long divisor(long a, long b) {
+        return b == 0 ? a : divisor(b, a % b);
     }
 
     void end() {
