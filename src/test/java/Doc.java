@@ -10,6 +10,13 @@ final class Doc {
     private Doc() {
     }
 
+    /** The declarations of the public face, one after the other, without what is around them. */
+    static String[] face() {
+        int from = TEXT.indexOf("public final class MarginPlan {");
+        String all = TEXT.substring(TEXT.indexOf('{', from) + 1, TEXT.indexOf('}', from));
+        return all.trim().split("; ?");
+    }
+
     private static String text() {
         try {
             return plain(Files.readString(Path.of("../shared/DOC.md")));
@@ -22,10 +29,10 @@ final class Doc {
         return text.replace("`", "").replaceAll("\\s+", " ");
     }
 
-    /** Whether these words stand in "Terms 1" to "Terms 5", or in "Promise 1" to "Promise 53". */
+    /** Whether these words stand in "Terms 1" to "Terms 5", in "Promise 1" to "Promise 53", or in "What it is". */
     static boolean says(String part, String words) {
         boolean term = part.startsWith("Terms ");
-        String head = term ? "==== " + part.substring(6) + ". " : "## " + part + ": ";
+        String head = term ? "==== " + part.substring(6) + ". " : part.startsWith("Promise ") ? "## " + part + ": " : "## " + part;
         int from = TEXT.indexOf(head);
         if (from < 0) {
             return false;

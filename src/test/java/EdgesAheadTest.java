@@ -28,6 +28,7 @@ public final class EdgesAheadTest {
         bestIll();
         bestFromNow();
         bestOfSeveral();
+        bestOfAll();
         bestIn99();
         bestStatus();
         bestAt();
@@ -57,7 +58,7 @@ public final class EdgesAheadTest {
     }
 
     private static void now() {
-        c.says("Terms 3", "(0: now;");
+        c.says("Terms 3", "WHEN a CELL KNOWS a SECRET: behind how many TURNS from now on (0: now;");
         MarginPlan x = Check.with("cell a pricks 9;cell b;secret s letters 3;secret t letters 3;page p room 9;knows a s;knows a t;knows b t;");
         c.fine(x, "when", x.when(0, 0), 0);
         c.fine(x, "heard", x.heard(1), 0);
@@ -262,6 +263,8 @@ public final class EdgesAheadTest {
         c.refused(none, "none is HEARD", none.firstHeard(), 8);
         MarginPlan nothing = Check.with("cell a;");
         c.refused(nothing, "there is none", nothing.firstHeard(), 8);
+        nothing = new MarginPlan();
+        c.refused(nothing, "there is no SECRET and no CELL", nothing.firstHeard(), 8);
     }
 
     private static void firstHeardFar() {
@@ -337,6 +340,52 @@ public final class EdgesAheadTest {
         MarginPlan y = Check.with("cell a;cell b;cell d pricks 2;cell e;secret s letters 2;page p room 2;knows d s;");
         c.fine(y, "in 4", y.bestOrder(), 4);
         c.fine(y, "the readers as they are numbered", y.bestAt(0) * 1000 + y.bestAt(1) * 100 + y.bestAt(2) * 10 + y.bestAt(3), 2013);
+    }
+
+    /** Each of the 720 ORDERS of six CELLS is the best one for some BOOK, the first and the last too. */
+    private static void bestOfAll() {
+        c.says("Terms 3", "that by which, from now on, the first of it first, ALL is the soonest");
+        int[] order = new int[6];
+        int[] seen = {0};
+        tryOrders(order, 0, 0, seen);
+        c.due("ORDERS", seen[0], 720);
+    }
+
+    private static void tryOrders(int[] order, int many, int used, int[] seen) {
+        if (many == 6) {
+            seen[0]++;
+            bestIs(order);
+            return;
+        }
+        for (int cell = 0; cell < 6; cell++) {
+            if ((used >> cell & 1) == 0) {
+                order[many] = cell;
+                tryOrders(order, many + 1, used | 1 << cell, seen);
+            }
+        }
+    }
+
+    /** The k-th of this ORDER KNOWS the SECRETS from the k-th on and makes one PRICK: by this ORDER alone each reads all it lacks in its first TURN. */
+    private static void bestIs(int[] order) {
+        StringBuilder text = new StringBuilder(Texts.cells(6, " pricks 1"));
+        for (int k = 0; k < 6; k++) {
+            text.append("secret s").append((char) ('a' + k)).append(" letters 1;");
+        }
+        text.append("page pa room 6;");
+        for (int k = 0; k < 6; k++) {
+            for (int s = k; s < 6; s++) {
+                text.append("knows ").append((char) ('a' + order[k])).append(" s").append((char) ('a' + s)).append(';');
+            }
+        }
+        MarginPlan x = Check.with(text.toString());
+        StringBuilder due = new StringBuilder();
+        StringBuilder got = new StringBuilder();
+        c.fine(x, "bestOrder", x.bestOrder(), 6);
+        for (int k = 0; k < 6; k++) {
+            due.append(order[k]);
+            got.append(x.bestAt(k));
+        }
+        c.due("best of " + due, got.toString(), due.toString());
     }
 
     private static void bestIn99() {

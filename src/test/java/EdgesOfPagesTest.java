@@ -101,6 +101,10 @@ public final class EdgesOfPagesTest {
         c.fine(x, "7 and 4, 6 and 5: not as they come", x.fits(), 2);
         x = Check.with("secret s letters 3;secret t letters 5;secret u letters 2;page p room 5;page q room 5;");
         c.fine(x, "3 and 2, 5", x.fits(), 2);
+        x = Check.with("secret s letters 2;secret t letters 2;secret u letters 5;secret v letters 3;page p room 3;page q room 5;page r room 4;");
+        c.fine(x, "v, u, s and t: in this way alone", x.fits(), 3);
+        x = Check.with("secret s letters 2;secret t letters 2;secret u letters 5;secret v letters 3;page p room 4;page q room 5;page r room 3;");
+        c.fine(x, "s and t, u, v: in this way alone", x.fits(), 3);
     }
 
     private static void fitsAsEmpty() {
@@ -270,6 +274,8 @@ public final class EdgesOfPagesTest {
         c.fraction(x, "one alone, for sure", x.game(), 1, 1);
         x.watch(5, 1);
         c.fraction(x, "one alone by 1", x.game(), 1, 16);
+        c.says("Terms 3", "GAME: a prisoner hides on one PAGE that is not SHUT, the WARDER looks at one; he finds him by its sixteenths, if it is the same:"
+            + " the ODDS that he is found, if both choose by the best ODDS there are");
         x = Check.with(Texts.pages(3, 5) + Texts.read(1, 2, 4));
         // Parts of 4, 2, 1: 4 by 7 of 1 by 16.
         c.fraction(x, "by 1, 2, 4", x.game(), 1, 28);

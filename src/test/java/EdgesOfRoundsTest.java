@@ -50,6 +50,7 @@ public final class EdgesOfRoundsTest {
         livedWhat();
         livedLeft();
         livedLatest();
+        loopsAnew();
         mean();
         meanSeeds();
         meanStatus();
@@ -389,6 +390,9 @@ public final class EdgesOfRoundsTest {
         MarginPlan x = with("rub p;turn 1;rub q;rub p;rub p;");
         c.fine(x, "live", x.live(0), 5);
         lived(x, 3, 1, 4, 0, 0);
+        MarginPlan one = with("cell a;secret s letters 1;page p room 1;knows a s;", "turn 1;rub p;rub p;");
+        c.fine(one, "one PRICK is enough", one.live(0), 3);
+        lived(one, 1, 1, 1, 0, 0);
     }
 
     private static void warderMissed() {
@@ -401,6 +405,9 @@ public final class EdgesOfRoundsTest {
         Check.rounds(x, "turn 2;warder;");
         c.fine(x, "it is never read", x.live(0), 2);
         c.fine(x, "MISSED", x.lived(0), 1);
+        MarginPlan one = with("cell a;secret s letters 1;page p room 1;knows a s;read p odds 16;", "turn 1;warder;warder;");
+        c.fine(one, "one PRICK is enough", one.live(0), 3);
+        lived(one, 1, 1, 1, 1, 0);
         MarginPlan none = new MarginPlan();
         Check.rounds(none, "warder;");
         c.fine(none, "no PAGE", none.live(0), 1);
@@ -663,9 +670,32 @@ public final class EdgesOfRoundsTest {
         lived(x, 1, 2, 4, 0, 0);
         x.live(0);
         lived(x, 0, 7, 0, 0, 0);
+        x = with("loop 99;turn 1;warder;rub q;end;turn 1;turn 1;turn 1;");
+        x.watch(0, 16);
+        x.live(0);
+        c.due("much of all", x.lived(0) > 0 && x.lived(1) > 0 && x.lived(2) > 0 && x.lived(3) > 0 && x.lived(4) > 0, true);
+        Check.rounds(x, "damp p;damp q;");
+        x.live(0);
+        lived(x, 0, 0, 0, 0, 0);
     }
 
-    private static final String SEEN = "cell a pricks 9;cell b;secret s letters 3;secret t letters 3;page p room 9;page q room 9;knows a s;knows a t;read p odds 8;";
+    private static void loopsAnew() {
+        c.says("Terms 4", "loop n (1 to 99): as often");
+        MarginPlan x = with("loop 9;turn 1;stop;end;");
+        c.fine(x, "a loop that a stop left", x.live(0), 3);
+        c.fine(x, "begun anew", x.live(0), 3);
+        Check.rounds(x, "when knows a s;turn 1;end;turn 2;");
+        c.fine(x, "nothing of it is left where now a when stands", x.live(0), 3);
+        lived(x, 0, 3);
+        Check.rounds(x, "loop 99;loop 99;turn 1;end;end;");
+        x.live(0);
+        c.fine(x, "loops that the 300 left", x.lived(4), 1);
+        Check.rounds(x, "loop 2;when knows a s;turn 1;end;end;");
+        c.fine(x, "nothing of these is left", x.live(0), 5);
+        lived(x, 0, 2);
+    }
+
+    private static final String SEEN = "cell a pricks 9;cell b;secret s letters 3;secret t letters 3;page p room 9;page q room 9;knows a s;knows a t;read p odds 5;";
 
     private static void mean() {
         c.says("Promise 51", "The FRACTION is the mean of how many SECRETS a CELL KNOWS behind the ROUNDS, by so many seeds (1 to 20) from one on"
@@ -674,7 +704,7 @@ public final class EdgesOfRoundsTest {
         for (int many = 1; many <= 20; many++) {
             int sum = 0;
             for (int seed = 100; seed < 100 + many; seed++) {
-                sum += (seed * 2969 + 10651) % 65536 / 8 % 16 < 8 ? 0 : 2;
+                sum += (seed * 2969 + 10651) % 65536 / 8 % 16 < 5 ? 0 : 2;
             }
             c.reduced(x, "by " + many, x.mean(1, 100, many), sum, many);
             c.reduced(x, "of one that KNOWS both, by " + many, x.mean(0, 100, many), 2, 1);

@@ -32,6 +32,7 @@ public final class EdgesOfStatusTest {
         c.says("Terms 5", "A call with another STATUS than 0 gives NONE, or false, and changes nothing but STATUS (but book(), rounds() with 10 the tape,"
             + " and what fault() tells).");
         theSceneIsBusy();
+        firstThatHolds();
         trays();
         texts();
         faults();
@@ -72,6 +73,45 @@ public final class EdgesOfStatusTest {
         c.due("a third MARK", x.mark(), 3);
         c.due("ROUNDS", x.live(0) > 4, true);
         c.due("the tape", x.rounds(16), 2);
+    }
+
+    private static void firstThatHolds() {
+        c.says("Terms 5", "STATUS of a call is the first of these that holds");
+        Twins t = twins();
+        t.denies("tray: 1, 5", x -> x.tray(4, 0, 61), 1);
+        t.denies("tray: 1, 6", x -> x.tray(0, 4, -1), 1);
+        t.denies("write: 1, 4", x -> x.write(-1, -1, 0), 1);
+        t.denies("write: 3, 4", x -> x.write(3, -1, 0), 3);
+        t.refuses("read: 1, 4", x -> x.read(-1, -1), 1);
+        t.refuses("read: 3, 4", x -> x.read(3, -1), 3);
+        t.refuses("cell: 2, 5", x -> x.cell(4, 6), 2);
+        t.refuses("page: 2, 5", x -> x.page(3, 4), 2);
+        t.refuses("copyPage: 1, 2", x -> x.copyPage(3, 4), 1);
+        t.refuses("copyPage: 2, 3", x -> x.copyPage(3, 3), 2);
+        twins(x -> Texts.lay(x, 3, 1, 77)).refuses("copyPage: 2, 4", x -> x.copyPage(3, 3), 2);
+        t.denies("damp: 2, 9", x -> x.damp(-1, false), 2);
+        t.denies("ill: 2, 9", x -> x.ill(-1, false), 2);
+        t.denies("move: 2, 9", x -> x.move(4, 4), 2);
+        t.denies("watch: 2, 5", x -> x.watch(3, 17), 2);
+        t.refuses("later: 2, 5", x -> x.later(4, 1000), 2);
+        t.refuses("roomIn: 2, 5", x -> x.roomIn(3, 1000), 2);
+        t.refuses("pricked: 1, 3, 4, 5", x -> x.pricked(4, 99, 3, 0), 1);
+        t.refuses("pricked: 3, 4, 5", x -> x.pricked(0, 99, 3, 0), 3);
+        t.refuses("pricked: 4, 5", x -> x.pricked(0, 99, 1, 0), 4);
+        t.refuses("prickAt: 1, 3, 4, 5", x -> x.prickAt(4, 99, 3, 0, -1), 1);
+        t.refuses("prickAt: 3, 4, 5", x -> x.prickAt(0, 99, 3, 0, -1), 3);
+        t.refuses("prickAt: 4, 5", x -> x.prickAt(0, 99, 1, 0, -1), 4);
+        t.refuses("prickAt: 5, 8", x -> x.prickAt(0, 3, 1, 2, 3), 5);
+        t.refuses("shortest: 4, 5", x -> x.shortest(0, 99, 1, 0), 4);
+        t.denies("mean: 2, 5", x -> x.mean(4, -1, 0), 2);
+        Twins none = twins(x -> {
+            Check.emptyTape(x);
+            Check.book(x, BOOK);
+        });
+        none.refuses("live: 5, 8", x -> x.live(-1), 5);
+        none.denies("mean: 2, 8", x -> x.mean(4, 0, 1), 2);
+        none.denies("mean: 5, 8", x -> x.mean(0, 0, 0), 5);
+        new Twins(c, x -> x.mark()).refuses("lived: 5, 8", x -> x.lived(5), 5);
     }
 
     private static void trays() {

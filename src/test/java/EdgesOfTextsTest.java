@@ -27,6 +27,7 @@ public final class EdgesOfTextsTest {
         words();
         numbers();
         signs();
+        eachPart();
         parts();
         names();
         noNames();
@@ -49,6 +50,7 @@ public final class EdgesOfTextsTest {
         fault1();
         fault2();
         faultAtTheEnd();
+        cutAnywhere();
         fault2LongWord();
         fault3();
         fault4();
@@ -337,6 +339,25 @@ public final class EdgesOfTextsTest {
         c.bookFault(x, "cell a <", 2, 7);
         c.bookFault(x, "cell a >", 2, 7);
         c.bookFault(x, "cell a =", 2, 7);
+    }
+
+    private static void eachPart() {
+        c.says("Terms 1", "BOOK: {PART}. PART: cell NAME [pricks NUMBER] [blind] [rubs] ; or secret NAME letters NUMBER ; or page NAME room NUMBER ;"
+            + " or knows NAME NAME ; or order NAME {NAME} ; or read NAME odds NUMBER ;");
+        MarginPlan x = new MarginPlan();
+        String[] whole = {"cell c ;", "cell c pricks 3 ;", "cell c blind ;", "cell c rubs ;", "cell c pricks 3 blind rubs ;", "secret u letters 2 ;",
+            "page q room 2 ;", "knows a s ;", "order a ;", "order a b ;", "read p odds 2 ;"};
+        for (String part : whole) {
+            int cells = part.startsWith("cell") ? 3 : 2;
+            c.fine(x, part, Check.book(x, HEAD + part), cells);
+            c.fine(x, part + " and no blank", Check.book(x, HEAD + part.replace(" ;", ";") + " "), cells);
+            for (String no : new String[] {"<", "=", ">", "room room", "7 7"}) {
+                for (int at = part.indexOf(' '); at >= 0; at = part.indexOf(' ', at + 1)) {
+                    Check.book(x, HEAD + part.substring(0, at) + " " + no + part.substring(at));
+                    c.due(part + " with " + no + " at " + at, x.status(), 10);
+                }
+            }
+        }
     }
 
     private static void parts() {
@@ -649,6 +670,27 @@ public final class EdgesOfTextsTest {
         c.refused(x, "book(12)", x.book(12), 10);
         c.due("fault(0)", x.fault(0), 2);
         c.due("fault(1)", x.fault(1), 12);
+    }
+
+    /** What stands on the tape behind the first n bytes is no part of the TEXT. */
+    private static void cutAnywhere() {
+        c.says("Promise 10", "The first n bytes of the tape");
+        String text = "cell abcdef pricks 0012 blind rubs;secret s letters 12;page p room 34;read p odds 16;knows abcdef s;order abcdef;";
+        for (int n = 0; n <= text.length(); n++) {
+            MarginPlan x = new MarginPlan();
+            MarginPlan y = new MarginPlan();
+            Check.feed(x, text + "0".repeat(20));
+            int cells = x.book(n);
+            c.due("book(" + n + ")", cells, Check.book(y, text.substring(0, n)));
+            c.due("fault(0) of " + n, x.fault(0), y.fault(0));
+            c.due("fault(1) of " + n, x.fault(1), y.fault(1));
+            c.due("PRICKS of " + n, x.cell(0, 0), y.cell(0, 0));
+        }
+        MarginPlan full = new MarginPlan();
+        for (String last : new String[] {"1", "a", ";", "<", "!"}) {
+            c.bookFault(full, " ".repeat(899) + last, last.equals("!") ? 1 : 2, 899);
+        }
+        c.fine(full, "900 blanks", Check.book(full, " ".repeat(900)), 0);
     }
 
     private static void fault2LongWord() {

@@ -12,6 +12,8 @@ public final class EdgesOfTurnsTest {
         theBookStays();
         behindThatPlace();
         manyAtOnce();
+        learningAlone();
+        theLargest();
         readsUnlessBlind();
         readsWhatStands();
         rubsTheFirst();
@@ -181,6 +183,7 @@ public final class EdgesOfTurnsTest {
         MarginPlan one = Check.with("cell a;");
         one.turn(1);
         c.fine(one, "one alone, round and round", one.next(), 0);
+        c.says("Terms 1", "ORDER: the CELLS to which the book goes, one after the other, round and round");
         MarginPlan eight = Check.with(Texts.cells(8, "") + "order h g f e d c b a;");
         for (int i = 0; i < 20; i++) {
             c.fine(eight, "the CELL of TURN " + i, eight.next(), 7 - i % 8);
@@ -211,6 +214,66 @@ public final class EdgesOfTurnsTest {
                 c.due("known by the last", x.cell(4, 3), y.cell(4, 3));
             }
         }
+    }
+
+    /** TURNS in which all only learn, the last of them rubbing out: that is not yet the end of what comes. */
+    private static void learningAlone() {
+        c.says("Promise 22", "So many TURNS (1 to 99): the TURN then");
+        String text = "cell a pricks 9;cell b pricks 9;cell d pricks 0 rubs;secret s letters 3;secret t letters 4;page p room 3;page q room 4;knows a s;knows b t;";
+        for (int turns = 3; turns < 12; turns++) {
+            MarginPlan x = Check.with(text);
+            MarginPlan y = Check.with(text);
+            ahead(x);
+            ahead(y);
+            c.fine(x, "PRICKS ahead", x.many(6), 7);
+            for (int i = 0; i < turns; i++) {
+                y.turn(1);
+            }
+            c.fine(x, "FREE of p in " + turns, x.roomIn(0, turns), y.page(0, 2));
+            c.fine(x, turns + " at once", x.turn(turns), 3 + turns);
+            c.fine(x, "PRICKS", x.many(6), y.many(6));
+            c.fine(x, "FREE of p", x.page(0, 2), y.page(0, 2));
+            c.fine(x, "the CELL then", x.next(), y.next());
+        }
+        MarginPlan x = Check.with(text);
+        ahead(x);
+        x.turn(4);
+        c.fine(x, "a, b and d learned, d rubbed out s, and a pricked it anew", x.many(6), 10);
+    }
+
+    /** a made s on p, b made t on q; neither could read the other's, and d none. a has the book next. */
+    private static void ahead(MarginPlan x) {
+        x.ill(2, true);
+        x.turn(1);
+        x.damp(0, true);
+        x.turn(1);
+        x.damp(1, true);
+        x.ill(2, false);
+        x.turn(1);
+        x.damp(0, false);
+        x.damp(1, false);
+    }
+
+    private static void theLargest() {
+        c.says("Terms 1", "CELLS, at most 8");
+        MarginPlan x = Check.with(Texts.cells(8, " rubs") + Texts.secrets(6, 20) + Texts.pages(6, 60) + Texts.knows('a', 6)
+            + "knows h sf;knows h sa;order h g f e d c b a;");
+        for (int i = 1; i <= 10; i++) {
+            c.fine(x, "99 TURNS more", x.turn(99), 99 * i);
+        }
+        int all = 0;
+        for (int page = 0; page < 6; page++) {
+            all |= x.page(page, 3);
+        }
+        c.due("each stands", all, 63);
+        for (int cell = 0; cell < 8; cell++) {
+            c.fine(x, "all is known by " + cell, x.cell(cell, 3), 63);
+            x.ill(cell, true);
+        }
+        c.fine(x, "all are ILL", x.turn(99), 1089);
+        MarginPlan small = Check.with("cell a;cell b rubs;secret s letters 1;page p room 0;" + "knows a s;");
+        c.fine(small, "nothing can be pricked", small.turn(9), 9);
+        c.fine(small, "nothing", small.many(6), 0);
     }
 
     private static void sick(MarginPlan x, int set, boolean is) {

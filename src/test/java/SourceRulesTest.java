@@ -26,6 +26,7 @@ public final class SourceRulesTest {
         }
         c.due("a lambda", code.contains("->"), false);
         c.due("a method reference", code.contains("::"), false);
+        c.due("what is made outside of fields: the MARKS' rows, by the constructor", count(code, "(?m)^(?! +(?:private |static |final )*[\\w\\[\\]]+ \\w+ = new).*\\bnew\\b"), 1);
         c.due("texts joined by +", Pattern.compile("\"\\s*\\+|\\+\\s*\"").matcher(code).find(), false);
         Matcher imports = Pattern.compile("import ([^;]*);").matcher(code);
         while (imports.find()) {
