@@ -1,9 +1,16 @@
+import java.io.PrintWriter;
+import java.io.StringWriter;
 import java.nio.file.Files;
 import java.nio.file.Path;
 import java.util.ArrayList;
 import java.util.List;
+import java.util.Map;
+import java.util.Set;
+import java.util.TreeMap;
+import java.util.TreeSet;
 import java.util.regex.Matcher;
 import java.util.regex.Pattern;
+import java.util.spi.ToolProvider;
 
 /** Rules of LANGUAGE.md that can be seen in the text of the class. */
 public final class SourceRulesTest {
@@ -37,6 +44,7 @@ public final class SourceRulesTest {
         classes(code);
         names(code);
         methods(code);
+        calls();
         c.end();
     }
 
@@ -78,6 +86,58 @@ public final class SourceRulesTest {
                 begun = -1;
             }
         }
+    }
+
+    /** Calls go at most eight deep, none calls itself, and a class has some twenty fields: as the compiled class tells it. */
+    private static void calls() {
+        Map<String, Set<String>> calls = new TreeMap<>();
+        Map<String, Integer> fields = new TreeMap<>();
+        String at = "";
+        String method = "";
+        for (String line : compiled().split("\n")) {
+            Matcher type = Pattern.compile("(?:public )?final class (\\S+) \\{").matcher(line);
+            Matcher member = Pattern.compile("  [^ ].*?([\\w$]+)\\(.*\\);").matcher(line);
+            Matcher field = Pattern.compile("  [^ (]+ [^(]*;").matcher(line);
+            Matcher call = Pattern.compile(".*// Method (?:([\\w$/]+)\\.)?\"?([\\w<>]+)\"?:.*").matcher(line);
+            if (type.lookingAt()) {
+                at = type.group(1);
+            } else if (member.matches()) {
+                method = at + "." + (member.group(1).equals(at) ? "<init>" : member.group(1));
+                calls.putIfAbsent(method, new TreeSet<>());
+            } else if (call.matches() && !method.isEmpty()) {
+                calls.get(method).add((call.group(1) == null ? at : call.group(1)) + "." + call.group(2));
+            } else if (field.matches() && !line.contains("static final")) {
+                fields.merge(at, 1, Integer::sum);
+            }
+        }
+        c.due("methods that javap tells of, there are " + calls.size(), calls.size() > 150, true);
+        c.due("classes with fields, there are " + fields.size(), fields.size() >= 11, true);
+        for (String from : calls.keySet()) {
+            c.due("calls from " + from + " go at most eight deep", depth(calls, from, 1) <= 8, true);
+        }
+        fields.forEach((type, many) -> c.due("some twenty fields in " + type + ", there are " + many, many <= 20, true));
+    }
+
+    /** How deep calls go from a method on, itself counted; beyond 20 they are taken to go round. */
+    private static int depth(Map<String, Set<String>> calls, String from, int level) {
+        int most = 1;
+        for (String to : calls.getOrDefault(from, Set.of())) {
+            most = Math.max(most, level > 20 ? level : 1 + depth(calls, to, level + 1));
+        }
+        return most;
+    }
+
+    private static String compiled() {
+        StringBuilder all = new StringBuilder();
+        List<Class<?>> types = new ArrayList<>(List.of(MarginPlan.class.getDeclaredClasses()));
+        types.add(MarginPlan.class);
+        for (Class<?> type : types) {
+            StringWriter told = new StringWriter();
+            PrintWriter out = new PrintWriter(told);
+            ToolProvider.findFirst("javap").orElseThrow().run(out, out, "-p", "-c", "-cp", System.getProperty("java.class.path"), type.getName());
+            all.append(told);
+        }
+        return all.toString();
     }
 
     private static int count(String text, String pattern) {
